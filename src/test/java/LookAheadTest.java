@@ -1,0 +1,167 @@
+/** Promises 23 to 25: minutes looked ahead at, and the image. */
+public final class LookAheadTest {
+    private static final Check CHECK = new Check();
+
+    public static void main(String[] args) {
+        promise23();
+        promise23NothingStays();
+        promise23Refused();
+        promise24And25();
+        promise24And25OfAll();
+        promise25Chips();
+        CHECK.over("LookAheadTest");
+    }
+
+    private static FlumeOrders forest(String text) {
+        FlumeOrders x = new FlumeOrders();
+        CHECK.due(text, Check.forest(x, text), 1);
+        return x;
+    }
+
+    private static void laters(FlumeOrders x, int minutes, int... due) {
+        for (int what = 0; what < due.length; what++) {
+            CHECK.due("later(" + minutes + ", " + what + ")", x.later(minutes, what), due[what]);
+        }
+    }
+
+    private static void promise23() {
+        FlumeOrders x = forest("reach 0 1;camp 1 5;reach 1 1 stick 40 bend 3");
+        // From seed 1 on the draws are 38 58 13 15.
+        Check.chip(x, 0, 1, "to 1;cut 3;send 2;answer");
+        Check.chip(x, 0, 1, "mill");
+        Check.chip(x, 0, 2, "mill");
+        Check.chip(x, 0, 3, "mill");
+        laters(x, 0, 0, 0, 0, 0, 4, 0);
+        laters(x, 1, 0, 0, 0, 0, 0, 4);
+        // Chip 1 sticks by 38, the answer does not by 58, chip 2 sticks by 13; chip 3 waits at the bend.
+        laters(x, 7, 0, 1, 1, 2, 0, 3);
+        laters(x, 8, 0, 1, 2, 2, 0, 2);
+        laters(x, 9, 0, 1, 2, 2, 1, 1);
+        laters(x, 12, 0, 1, 2, 2, 1, 1);
+        laters(x, 13, 1, 1, 3, 2, 0, 0);
+        laters(x, 2000, 1, 1, 3, 2, 0, 0);
+        x.run(10);
+        laters(x, 0, 0, 1, 2, 2, 1, 1);
+        laters(x, 3, 1, 1, 3, 2, 0, 0);
+    }
+
+    private static void promise23NothingStays() {
+        FlumeOrders x = forest("reach 0 1 stick 50;camp 1 5");
+        for (int i = 0; i < 4; i++) {
+            Check.chip(x, 0, 1, "all;cut 2;send 1;answer;void 3");
+        }
+        for (int round = 0; round < 3; round++) {
+            int then = x.later(500, 3);
+            CHECK.due("again", x.later(500, 3), then);
+        }
+        CHECK.due("clock", x.count(4), 0);
+        CHECK.due("chips", x.count(2), 4);
+        CHECK.due("sent", x.count(8), 0);
+        CHECK.due("trees", x.camp(1, 0), 5);
+        CHECK.due("reach 0", x.reach(0, 3), 0);
+        x.run(1);
+        int[] draws = {38, 58, 13, 15};
+        for (int i = 0; i < 4; i++) {
+            CHECK.due("the draws are as without", x.look(i, 0), draws[i] < 50 ? 2 : 1);
+        }
+        CHECK.due("the tape", x.feed(0, 0, 0, 0, 0), 20);
+        x.later(5, 0);
+        CHECK.due("the tape stays", x.feed(0, 0, 0, 0, 0), 40);
+    }
+
+    private static void promise23Refused() {
+        FlumeOrders x = new FlumeOrders();
+        CHECK.throwsDue("minutes -1", () -> x.later(-1, 0), Check.ARGUMENT);
+        CHECK.throwsDue("minutes 2001", () -> x.later(2001, 9), Check.ARGUMENT);
+        CHECK.throwsDue("what 6", () -> x.later(0, 6), Check.NO_ELEMENT);
+        CHECK.throwsDue("what -1", () -> x.later(2000, -1), Check.NO_ELEMENT);
+        CHECK.due("later(2000, 5)", x.later(2000, 5), 0);
+    }
+
+    private static void promise24And25() {
+        FlumeOrders x = forest("reach 0 2");
+        CHECK.due("none was kept", x.back(), false);
+        Check.chip(x, 0, 1, "mill");
+        x.run(5);
+        x.image();
+        for (int i = 0; i < 2; i++) {
+            CHECK.due("run(8)", x.run(8), 1);
+            CHECK.due("back", x.back(), true);
+            CHECK.due("clock", x.count(4), 5);
+            CHECK.due("to go", x.look(0, 2), 8);
+            CHECK.due("out", x.count(3), 0);
+            CHECK.due("out(0)", x.out(0), FlumeOrders.NONE);
+        }
+        x.run(1);
+        x.image();
+        x.run(1);
+        CHECK.due("back", x.back(), true);
+        CHECK.due("the latest image", x.count(4), 6);
+    }
+
+    private static void promise24And25OfAll() {
+        FlumeOrders x = forest("camp 3 30;frost 0 0;seed 1;water 9");
+        x.order(1, 1);
+        x.order(1, 2);
+        x.ahead(0, 1, 40);
+        x.image();
+        Check.forest(x, "camp 4 4;reach 0 1 stick 99 bend 1;water 1;frost 0 23;seed 7");
+        x.order(2, 1);
+        x.ahead(1, 2, 9);
+        x.ahead(0, 1, 50);
+        Check.chip(x, 0, 1, "to 1;cut 1");
+        x.run(100);
+        Check.forest(x, "saw");
+        x.feed(0, 0, 0, 0, 0);
+        CHECK.due("back", x.back(), true);
+        int[] counts = {1, 1, 0, 0, 0, 9, 2, 0, 0, 0};
+        for (int what = 0; what < counts.length; what++) {
+            CHECK.due("count(" + what + ")", x.count(what), counts[what]);
+        }
+        CHECK.due("the fault stays", x.fault(), 0);
+        CHECK.due("the tape stays", x.end(20), true);
+        CHECK.due("reach 0", x.reach(0, 0), 10);
+        CHECK.due("its stick", x.reach(0, 1), 0);
+        CHECK.due("its bend", x.reach(0, 2), 0);
+        CHECK.due("pair", x.ahead(0, 1, 40), 40);
+        CHECK.due("a new order", x.order(1, 1), 2);
+        CHECK.due("without pairs", x.ahead(1, 2, 0), 0);
+        CHECK.due("a camp more", Check.forest(x, "camp 5 6;reach 0 1 stick 39"), 2);
+        CHECK.due("its trees", x.camp(2, 0), 6);
+        CHECK.due("its reach", x.reach(2, 0), 5);
+        Check.chip(x, 0, 1, "mill");
+        x.run(1);
+        CHECK.due("the seed is 1 again", x.look(0, 0), 2);
+    }
+
+    private static void promise25Chips() {
+        FlumeOrders x = forest("reach 0 1;camp 1 50");
+        Check.chip(x, 0, 1, "to 1;cut 1;void 1");
+        x.image();
+        Check.chip(x, 0, 2, "to 1;cut 9");
+        x.run(8);
+        CHECK.due("chip 1 was void", x.camp(1, 0), 49);
+        x.back();
+        CHECK.due("chips", x.count(2), 1);
+        CHECK.due("trees", x.camp(1, 0), 50);
+        CHECK.due("another chip 1", Check.chip(x, 1, 2, "mill"), 1);
+        CHECK.due("a wrong text leaves the kept chips alone", Check.chip(x, 1, 2, "all;cut 5;"), Check.ARGUMENT);
+        x.back();
+        Check.chip(x, 0, 1, "to 1;cut 7 if trees<50;answer");
+        x.run(7);
+        CHECK.due("its own notches", x.camp(1, 0), 49);
+        x.back();
+        x.run(7);
+        CHECK.due("of chip 0 as they were", x.camp(1, 0), 49);
+        Check.chip(x, 1, 1, "mill");
+        Check.chip(x, 0, 1, "to 1;void 0");
+        x.run(7);
+        CHECK.due("late", x.camp(1, 3), 1);
+        x.back();
+        CHECK.due("not late", x.camp(1, 3), 0);
+        Check.chip(x, 0, 1, "mill");
+        Check.chip(x, 0, 1, "to 1;void 0");
+        x.run(7);
+        CHECK.due("late again", x.camp(1, 3), 1);
+    }
+}
