@@ -66,6 +66,7 @@ public final class ChipTextTest {
     private static void promise5RightNotches() {
         CHECK.chipRight("to 11");
         CHECK.chipRight("  all  ");
+        CHECK.chipRight("mill;cut 999;send 1");
         CHECK.chipRight("mill;cut 1;send 999;answer;void 0;void 59");
         CHECK.chipRight("to 001;cut001if frost");
         CHECK.chipRight("all;answer if not not not not not not frost");
@@ -125,6 +126,10 @@ public final class ChipTextTest {
         CHECK.chipFault("all;cut 1 if logs<1 2", 20);
         CHECK.chipFault("all;cut 1 if logs<1000", 18);
         CHECK.chipFault("all;cut 1 if birds<1", 13);
+        CHECK.chipFault("all;cut 1 if +1<2", 13);
+        CHECK.chipFault("all;cut 1 if <2", 13);
+        CHECK.chipFault("all;cut 1 if 1<>2", 15);
+        CHECK.chipFault("all;cut 1 if 1++1<2", 15);
         CHECK.chipFault("all;cut 1 if 1<birds", 15);
         CHECK.chipFault("all;cut 1 if frost<2", 18);
         CHECK.chipFault("all;cut 1 if 2<frost", 15);

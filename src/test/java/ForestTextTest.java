@@ -13,6 +13,7 @@ public final class ForestTextTest {
         promise6Bounds();
         promise6Order();
         promise6Latest();
+        promise6BytesBehindTheText();
         CHECK.over("ForestTextTest");
     }
 
@@ -38,7 +39,10 @@ public final class ForestTextTest {
         CHECK.due("the latest line of a kind holds", Check.forest(x, "water 3;water 4;reach 1 8;reach 1 9"), 4);
         CHECK.due("water 4", x.count(5), 4);
         CHECK.due("length 9", x.reach(1, 0), 9);
-        CHECK.due("leading noughts", Check.forest(x, "water 007;frost 01 002"), 5);
+        CHECK.due("noughts", Check.forest(x, "reach 1 9 stick 0 bend 0;seed 0"), 5);
+        CHECK.due("stick 0", x.reach(1, 1), 0);
+        CHECK.due("bend 0", x.reach(1, 2), 0);
+        CHECK.due("leading noughts", Check.forest(x, "water 007;frost 01 002"), 6);
         CHECK.due("water 7", x.count(5), 7);
     }
 
@@ -141,6 +145,7 @@ public final class ForestTextTest {
         CHECK.forestFault("reach 1 5", 6);
         CHECK.forestFault("camp 1 1;reach 2 5", 15);
         CHECK.forestFault("reach 0 0", 8);
+        CHECK.forestFault("reach 0 21", 8);
         CHECK.forestFault("reach 0 5 stick 100", 16);
         CHECK.forestFault("reach 0 5 bend 10", 15);
         CHECK.forestFault("water 0", 6);
@@ -156,6 +161,12 @@ public final class ForestTextTest {
         CHECK.forestFault(" ;", 1);
         CHECK.forestFault("5", 0);
         CHECK.forestFault("camps 1 1", 0);
+        CHECK.forestFault("campz 1 1", 0);
+        CHECK.forestFault("campa 1 1", 0);
+        CHECK.forestFault("camp{ 1 1", 4);
+        CHECK.forestFault("camp` 1 1", 4);
+        CHECK.forestFault("camp : 1", 5);
+        CHECK.forestFault("camp / 1", 5);
         CHECK.forestFault("Camp 1 1", 0);
         CHECK.forestFault("campS 1 1", 4);
         CHECK.forestFault("camp", 4);
@@ -195,5 +206,17 @@ public final class ForestTextTest {
         Check.chip(x, 0, 1, "mil");
         x.back();
         CHECK.due("the image does not keep it", x.fault(), 0);
+    }
+
+    private static void promise6BytesBehindTheText() {
+        FlumeOrders x = new FlumeOrders();
+        Check.feed(x, "water 59");
+        x.end(7);
+        CHECK.due("the number ends with the text", Check.answer(x::forest), 1);
+        CHECK.due("water", x.count(5), 5);
+        Check.feed(x, "campfire");
+        x.end(4);
+        CHECK.due("the word ends with the text", Check.answer(x::forest), Check.ARGUMENT);
+        CHECK.due("fault", x.fault(), 4);
     }
 }

@@ -205,6 +205,11 @@ public final class MinutesTest {
                 CHECK.due("stick " + stick + ", draw " + i, x.look(i, 0), draws[i] < stick ? 2 : 1);
             }
         }
+        FlumeOrders z = forest("reach 0 1 stick 50;camp 1 0;reach 1 1 stick 1");
+        Check.chip(z, 0, 1, "mill");
+        Check.chip(z, 1, 1, "mill");
+        z.run(1);
+        CHECK.due("a stick of 1 draws, too: 58 is for chip 0", z.look(0, 0), 1);
         FlumeOrders y = forest("reach 0 1;camp 1 0;reach 1 1 stick 50");
         Check.chip(y, 0, 1, "mill");
         Check.chip(y, 1, 1, "mill");
