@@ -73,11 +73,41 @@ final class Check {
         return answer(() -> x.fits(k));
     }
 
+    /** A new object whose forest is told by one text, which must be right. */
+    static FlumeOrders forestOf(String text) {
+        FlumeOrders x = new FlumeOrders();
+        if (forest(x, text) != 1) {
+            throw new IllegalStateException("the forest of a test was refused: " + text);
+        }
+        return x;
+    }
+
+    /** So many camps, each by a reach of length 1, and of 5 trees. */
+    static String camps(int count) {
+        return count == 0 ? "" : "camp 1 5;".repeat(count - 1) + "camp 1 5";
+    }
+
+    /** Any number of minutes from 1 on, by as few calls as there can be. */
+    static void run(FlumeOrders x, int minutes) {
+        for (int left = minutes; left > 0; left -= 2000) {
+            x.run(Math.min(left, 2000));
+        }
+    }
+
     /** A text of the forest that must be wrong at a place. */
     void forestFault(String text, int place) {
-        FlumeOrders x = new FlumeOrders();
+        forestFault(new FlumeOrders(), text, place);
+    }
+
+    void forestFault(FlumeOrders x, String text, int place) {
         due("forest of '" + text + "'", forest(x, text), ARGUMENT);
         due("fault of '" + text + "'", x.fault(), place);
+    }
+
+    void forestRight(String text) {
+        FlumeOrders x = new FlumeOrders();
+        due("forest of '" + text + "'", forest(x, text), 1);
+        due("fault of '" + text + "'", x.fault(), FlumeOrders.NONE);
     }
 
     void chipFault(String text, int place) {
@@ -91,6 +121,18 @@ final class Check {
         FlumeOrders x = new FlumeOrders();
         due("chip of '" + text + "'", chip(x, 0, 1, text), 0);
         due("fault of '" + text + "'", x.fault(), FlumeOrders.NONE);
+    }
+
+    /** State, place, minutes to go, and the minute in which it came there. */
+    void looks(FlumeOrders x, int chip, int state, int place, int toGo, int came) {
+        due("state of chip " + chip, x.look(chip, 0), state);
+        due("place of chip " + chip, x.look(chip, 1), place);
+        due("to go of chip " + chip, x.look(chip, 2), toGo);
+        due("chip " + chip + " came", x.look(chip, 4), came);
+    }
+
+    boolean isRight() {
+        return wrong == 0;
     }
 
     void over(String test) {

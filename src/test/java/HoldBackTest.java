@@ -4,7 +4,6 @@ public final class HoldBackTest {
 
     public static void main(String[] args) {
         promise22();
-        promise22FewerThanTwo();
         CHECK.over("HoldBackTest");
     }
 
@@ -25,17 +24,5 @@ public final class HoldBackTest {
         CHECK.due("all twelve: 0 to 6", y.test(4095), 6);
         CHECK.due("the last two: 0 to 11", y.test(3 << 10), 11);
         CHECK.due("all bits", y.test(-1), 6);
-    }
-
-    private static void promise22FewerThanTwo() {
-        FlumeOrders x = new FlumeOrders();
-        CHECK.due("all bits, one reach", x.test(-1), FlumeOrders.NONE);
-        Check.forest(x, "camp 1 0");
-        CHECK.due("none", x.test(0), FlumeOrders.NONE);
-        CHECK.due("one", x.test(2), FlumeOrders.NONE);
-        CHECK.due("bits of no reach", x.test(-4), FlumeOrders.NONE);
-        CHECK.due("bits of no reach, and one", x.test(-2), FlumeOrders.NONE);
-        CHECK.due("bits of no reach, and both", x.test(-1), 1);
-        CHECK.due("both", x.test(3), 1);
     }
 }

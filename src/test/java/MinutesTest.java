@@ -1,14 +1,12 @@
-/** Promises 7 to 13: minutes, poles, water, and what one sees of chips, camps, reaches and what is out. */
+/** Promise 7: ordinary minutes, acts and questions. */
 public final class MinutesTest {
     private static final Check CHECK = new Check();
 
     public static void main(String[] args) {
         promise7GoesAndComes();
-        promise7Bounds();
         promise7HeavyAndLight();
         promise7Order();
         promise7Bends();
-        promise7EntersFromTheLowestReachUp();
         promise7Frost();
         promise7Draws();
         promise7Acts();
@@ -16,63 +14,31 @@ public final class MinutesTest {
         promise7Answers();
         promise7Heads();
         promise7Voids();
-        promise7VoidsOfOneself();
-        promise8();
-        promise9();
-        promise10();
-        promise11();
-        promise12();
-        promise13();
         CHECK.over("MinutesTest");
     }
 
-    private static FlumeOrders forest(String text) {
-        FlumeOrders x = new FlumeOrders();
-        CHECK.due(text, Check.forest(x, text), 1);
-        return x;
-    }
-
-    private static void looks(FlumeOrders x, int chip, int state, int place, int toGo, int came) {
-        CHECK.due("state of chip " + chip, x.look(chip, 0), state);
-        CHECK.due("place of chip " + chip, x.look(chip, 1), place);
-        CHECK.due("to go of chip " + chip, x.look(chip, 2), toGo);
-        CHECK.due("chip " + chip + " came", x.look(chip, 4), came);
-    }
-
     private static void promise7GoesAndComes() {
-        FlumeOrders x = forest("reach 0 2;camp 1 0");
+        FlumeOrders x = Check.forestOf("reach 0 2;camp 1 0");
         Check.chip(x, 0, 3, "mill");
-        looks(x, 0, 0, 0, 0, 0);
+        CHECK.looks(x, 0, 0, 0, 0, 0);
         CHECK.due("run(1)", x.run(1), 0);
-        looks(x, 0, 1, 0, 16, 0);
+        CHECK.looks(x, 0, 1, 0, 16, 0);
         CHECK.due("run(15)", x.run(15), 0);
-        looks(x, 0, 1, 0, 1, 0);
+        CHECK.looks(x, 0, 1, 0, 1, 0);
         CHECK.due("run(1)", x.run(1), 0);
         // It comes to the camp and goes on in the same minute.
-        looks(x, 0, 1, 1, 8, 16);
+        CHECK.looks(x, 0, 1, 1, 8, 16);
         CHECK.due("run(7)", x.run(7), 0);
-        looks(x, 0, 1, 1, 1, 16);
+        CHECK.looks(x, 0, 1, 1, 1, 16);
         CHECK.due("run(1)", x.run(1), 1);
-        looks(x, 0, 4, 2, 0, 24);
+        CHECK.looks(x, 0, 4, 2, 0, 24);
         CHECK.due("clock", x.count(4), 25);
         CHECK.due("run(2000)", x.run(2000), 0);
         CHECK.due("clock", x.count(4), 2025);
     }
 
-    private static void promise7Bounds() {
-        FlumeOrders x = new FlumeOrders();
-        CHECK.throwsDue("run(0)", () -> x.run(0), Check.ARGUMENT);
-        CHECK.throwsDue("run(-1)", () -> x.run(-1), Check.ARGUMENT);
-        CHECK.throwsDue("run(2001)", () -> x.run(2001), Check.ARGUMENT);
-        CHECK.throwsDue("run(MIN)", () -> x.run(Integer.MIN_VALUE), Check.ARGUMENT);
-        CHECK.throwsDue("run(MAX)", () -> x.run(Integer.MAX_VALUE), Check.ARGUMENT);
-        CHECK.due("clock", x.count(4), 0);
-        CHECK.due("run(2000)", x.run(2000), 0);
-        CHECK.due("clock", x.count(4), 2000);
-    }
-
     private static void promise7HeavyAndLight() {
-        FlumeOrders x = forest("reach 0 1;water 9");
+        FlumeOrders x = Check.forestOf("reach 0 1;water 9");
         Check.chip(x, 0, 9, "mill");
         Check.chip(x, 0, 1, "mill");
         // The light one needs 2 minutes, the heavy one 10: it is passed.
@@ -84,7 +50,7 @@ public final class MinutesTest {
     }
 
     private static void promise7Order() {
-        FlumeOrders x = forest("reach 0 1;water 9");
+        FlumeOrders x = Check.forestOf("reach 0 1;water 9");
         // All come out in one minute: by numbers, whenever they went in.
         Check.chip(x, 0, 3, "mill");
         Check.chip(x, 0, 3, "mill");
@@ -95,86 +61,76 @@ public final class MinutesTest {
         for (int i = 0; i < 3; i++) {
             CHECK.due("out(" + i + ")", x.out(i), i);
         }
-        FlumeOrders y = forest("reach 0 2 bend 1;camp 1 0;reach 1 1 bend 1");
+        FlumeOrders y = Check.forestOf("reach 0 2 bend 1;camp 1 0;reach 1 1 bend 1");
         // Of a lower number, but later at camp 1: it waits behind.
         Check.chip(y, 0, 1, "mill");
         y.run(1);
         Check.chip(y, 1, 9, "mill");
         Check.chip(y, 1, 9, "mill");
         y.run(12);
-        looks(y, 1, 1, 1, 3, 1);
-        looks(y, 0, 0, 1, 0, 12);
-        looks(y, 2, 0, 1, 0, 1);
+        CHECK.looks(y, 1, 1, 1, 3, 1);
+        CHECK.looks(y, 0, 0, 1, 0, 12);
+        CHECK.looks(y, 2, 0, 1, 0, 1);
         y.run(3);
-        looks(y, 2, 1, 1, 14, 15);
-        looks(y, 0, 0, 1, 0, 12);
+        CHECK.looks(y, 2, 1, 1, 14, 15);
+        CHECK.looks(y, 0, 0, 1, 0, 12);
     }
 
     private static void promise7Bends() {
-        FlumeOrders x = forest("reach 0 1 bend 2");
+        FlumeOrders x = Check.forestOf("reach 0 1 bend 2");
         for (int i = 0; i < 5; i++) {
             Check.chip(x, 0, i == 0 ? 2 : 1, "mill");
         }
         x.run(1);
         CHECK.due("two in the bend", x.reach(0, 3), 2);
-        looks(x, 2, 0, 0, 0, 0);
+        CHECK.looks(x, 2, 0, 0, 0, 0);
         // Chip 1 is out after 6 minutes, chip 0 after 7; each lets one in, in the same minute.
         CHECK.due("run(5)", x.run(5), 0);
         CHECK.due("run(1)", x.run(1), 1);
-        looks(x, 2, 1, 0, 6, 6);
-        looks(x, 3, 0, 0, 0, 0);
+        CHECK.looks(x, 2, 1, 0, 6, 6);
+        CHECK.looks(x, 3, 0, 0, 0, 0);
         CHECK.due("run(1)", x.run(1), 1);
-        looks(x, 3, 1, 0, 6, 7);
-        looks(x, 4, 0, 0, 0, 0);
+        CHECK.looks(x, 3, 1, 0, 6, 7);
+        CHECK.looks(x, 4, 0, 0, 0, 0);
         CHECK.due("run(5)", x.run(5), 1);
-        looks(x, 4, 1, 0, 6, 12);
+        CHECK.looks(x, 4, 1, 0, 6, 12);
         CHECK.due("a smaller bend lets those in it go", Check.forest(x, "reach 0 1 bend 1"), 2);
         Check.chip(x, 0, 1, "mill");
         CHECK.due("run(1)", x.run(1), 1);
-        looks(x, 5, 0, 0, 0, 13);
+        CHECK.looks(x, 5, 0, 0, 0, 13);
         CHECK.due("run(5)", x.run(5), 1);
-        looks(x, 5, 1, 0, 6, 18);
-        FlumeOrders y = forest("reach 0 1 stick 99 bend 1;seed 0");
+        CHECK.looks(x, 5, 1, 0, 6, 18);
+        FlumeOrders y = Check.forestOf("reach 0 1 stick 99 bend 1;seed 0");
         Check.chip(y, 0, 1, "mill");
         Check.chip(y, 0, 1, "mill");
         y.run(500);
-        looks(y, 0, 2, 0, 6, 0);
-        looks(y, 1, 0, 0, 0, 0);
+        CHECK.looks(y, 0, 2, 0, 6, 0);
+        CHECK.looks(y, 1, 0, 0, 0, 0);
         CHECK.due("no bend any more", Check.forest(y, "reach 0 1"), 2);
         y.run(1);
-        looks(y, 1, 1, 0, 6, 500);
-    }
-
-    private static void promise7EntersFromTheLowestReachUp() {
-        // From seed 1 on the draws are 38 58 13 15: reach 1 draws ahead of reach 0.
-        FlumeOrders x = forest("reach 0 1 stick 50;camp 1 0;reach 1 1 stick 50;seed 1");
-        Check.chip(x, 0, 1, "mill");
-        Check.chip(x, 1, 1, "mill");
-        x.run(1);
-        looks(x, 0, 1, 0, 6, 0);
-        looks(x, 1, 2, 1, 6, 0);
+        CHECK.looks(y, 1, 1, 0, 6, 500);
     }
 
     private static void promise7Frost() {
-        FlumeOrders x = forest("frost 0 1;reach 0 1");
+        FlumeOrders x = Check.forestOf("frost 0 1;reach 0 1");
         Check.chip(x, 0, 1, "mill");
         x.run(60);
-        looks(x, 0, 0, 0, 0, 0);
+        CHECK.looks(x, 0, 0, 0, 0, 0);
         x.run(1);
-        looks(x, 0, 1, 0, 6, 60);
+        CHECK.looks(x, 0, 1, 0, 6, 60);
         CHECK.due("run(6)", x.run(6), 1);
-        FlumeOrders y = forest("frost 1 3;reach 0 20");
+        FlumeOrders y = Check.forestOf("frost 1 3;reach 0 20");
         Check.chip(y, 0, 1, "mill");
         y.run(60);
-        looks(y, 0, 1, 0, 61, 0);
+        CHECK.looks(y, 0, 1, 0, 61, 0);
         CHECK.due("frost", y.count(9), 1);
         y.run(120);
-        looks(y, 0, 1, 0, 61, 0);
+        CHECK.looks(y, 0, 1, 0, 61, 0);
         CHECK.due("no frost", y.count(9), 0);
         CHECK.due("run(60)", y.run(60), 0);
         CHECK.due("run(1)", y.run(1), 1);
-        looks(y, 0, 4, 1, 0, 240);
-        FlumeOrders z = forest("frost 22 2;reach 0 20");
+        CHECK.looks(y, 0, 4, 1, 0, 240);
+        FlumeOrders z = Check.forestOf("frost 22 2;reach 0 20");
         z.run(120);
         CHECK.due("no frost at 2", z.count(9), 0);
         z.run(1199);
@@ -185,7 +141,7 @@ public final class MinutesTest {
         CHECK.due("frost at 1:59", z.count(9), 1);
         z.run(1);
         CHECK.due("no frost at 2", z.count(9), 0);
-        FlumeOrders never = forest("frost 5 5");
+        FlumeOrders never = Check.forestOf("frost 5 5");
         for (int hour = 0; hour < 25; hour++) {
             CHECK.due("frost at " + hour, never.count(9), 0);
             never.run(60);
@@ -196,7 +152,7 @@ public final class MinutesTest {
         // From seed 1 on the draws are 38 58 13 15 51 27 10 19 12 86.
         int[] draws = {38, 58, 13, 15, 51, 27, 10, 19, 12, 86};
         for (int stick : new int[] {13, 38, 39, 58, 59, 99}) {
-            FlumeOrders x = forest("reach 0 1 stick " + stick + ";seed 1");
+            FlumeOrders x = Check.forestOf("reach 0 1 stick " + stick + ";seed 1");
             for (int i = 0; i < draws.length; i++) {
                 Check.chip(x, 0, 1, "mill");
             }
@@ -205,12 +161,12 @@ public final class MinutesTest {
                 CHECK.due("stick " + stick + ", draw " + i, x.look(i, 0), draws[i] < stick ? 2 : 1);
             }
         }
-        FlumeOrders z = forest("reach 0 1 stick 50;camp 1 0;reach 1 1 stick 1");
+        FlumeOrders z = Check.forestOf("reach 0 1 stick 50;camp 1 0;reach 1 1 stick 1");
         Check.chip(z, 0, 1, "mill");
         Check.chip(z, 1, 1, "mill");
         z.run(1);
         CHECK.due("a stick of 1 draws, too: 58 is for chip 0", z.look(0, 0), 1);
-        FlumeOrders y = forest("reach 0 1;camp 1 0;reach 1 1 stick 50");
+        FlumeOrders y = Check.forestOf("reach 0 1;camp 1 0;reach 1 1 stick 50");
         Check.chip(y, 0, 1, "mill");
         Check.chip(y, 1, 1, "mill");
         y.run(1);
@@ -220,22 +176,22 @@ public final class MinutesTest {
     }
 
     private static void promise7Acts() {
-        FlumeOrders x = forest("reach 0 1;camp 1 5");
+        FlumeOrders x = Check.forestOf("reach 0 1;camp 1 5");
         Check.chip(x, 0, 1, "to 1;send 2;cut 3;send 2;cut 4;send 9;cut 1");
         x.run(7);
-        looks(x, 0, 3, 1, 0, 6);
+        CHECK.looks(x, 0, 3, 1, 0, 6);
         CHECK.due("trees", x.camp(1, 0), 0);
         CHECK.due("logs", x.camp(1, 1), 0);
         CHECK.due("sent", x.camp(1, 2), 5);
         Check.chip(x, 1, 1, "all;cut 1");
         x.run(7);
         CHECK.due("nothing is done where it is thrown", x.camp(1, 0), 0);
-        FlumeOrders y = forest("reach 0 1;camp 1 9;camp 1 9");
+        FlumeOrders y = Check.forestOf("reach 0 1;camp 1 9;camp 1 9");
         Check.chip(y, 0, 1, "all;cut 2;send 1");
         y.run(7);
-        looks(y, 0, 1, 1, 6, 6);
+        CHECK.looks(y, 0, 1, 1, 6, 6);
         y.run(6);
-        looks(y, 0, 1, 2, 6, 12);
+        CHECK.looks(y, 0, 1, 2, 6, 12);
         for (int camp = 1; camp < 3; camp++) {
             CHECK.due("trees", y.camp(camp, 0), 7);
             CHECK.due("logs", y.camp(camp, 1), 1);
@@ -246,7 +202,7 @@ public final class MinutesTest {
 
     /** Whether a question holds at a camp of 3 trees, 2 logs, 1 sent, water 6, at 2 o'clock, for a weight of 4. */
     private static boolean holds(String question) {
-        FlumeOrders x = forest("reach 0 1;camp 1 6;water 6");
+        FlumeOrders x = Check.forestOf("reach 0 1;camp 1 6;water 6");
         x.run(60);
         x.run(60);
         Check.chip(x, 0, 4, "to 1;cut 3;send 1;answer if " + question);
@@ -271,7 +227,7 @@ public final class MinutesTest {
         for (String q : dont) {
             CHECK.due(q, holds(q), false);
         }
-        FlumeOrders x = forest("reach 0 1;camp 1 6");
+        FlumeOrders x = Check.forestOf("reach 0 1;camp 1 6");
         Check.chip(x, 0, 1, "to 1;cut 5 if trees<6;cut 1;cut 2 if trees<6;send 1 if logs>3;send 2 if logs>2;cut 1 if sent>1");
         x.run(7);
         CHECK.due("each act asks just then: trees", x.camp(1, 0), 2);
@@ -280,7 +236,7 @@ public final class MinutesTest {
     }
 
     private static void promise7Answers() {
-        FlumeOrders x = forest("reach 0 1;camp 1 9");
+        FlumeOrders x = Check.forestOf("reach 0 1;camp 1 9");
         Check.chip(x, 0, 2, "all;answer;cut 4;answer;send 1;answer");
         x.run(8);
         CHECK.due("chips", x.count(2), 4);
@@ -288,13 +244,13 @@ public final class MinutesTest {
         for (int i = 0; i < 3; i++) {
             CHECK.due("weight", x.look(i + 1, 3), 1);
             CHECK.due("number", x.look(i + 1, 5), told[i]);
-            looks(x, i + 1, 1, 1, 6, 7);
+            CHECK.looks(x, i + 1, 1, 1, 6, 7);
         }
         CHECK.due("number of another", x.look(0, 5), FlumeOrders.NONE);
-        looks(x, 0, 1, 1, 7, 7);
+        CHECK.looks(x, 0, 1, 1, 7, 7);
         CHECK.due("answers are lighter", x.run(6), 3);
         CHECK.due("run(1)", x.run(1), 1);
-        FlumeOrders y = forest("reach 0 1;camp 1 9;camp 1 9");
+        FlumeOrders y = Check.forestOf("reach 0 1;camp 1 9;camp 1 9");
         for (int i = 0; i < 59; i++) {
             Check.chip(y, 0, i == 0 ? 1 : 9, i == 0 ? "all;answer;cut 2;answer;answer" : "mill");
         }
@@ -304,32 +260,32 @@ public final class MinutesTest {
         y.run(6);
         CHECK.due("acts are done without answers", y.camp(2, 0), 7);
         CHECK.due("60 at most", y.count(2), 60);
-        FlumeOrders z = forest("reach 0 1;camp 1 9;camp 1 9");
+        FlumeOrders z = Check.forestOf("reach 0 1;camp 1 9;camp 1 9");
         Check.chip(z, 0, 1, "to 1;answer");
         z.run(20);
-        looks(z, 1, 4, 3, 0, 18);
+        CHECK.looks(z, 1, 4, 3, 0, 18);
         CHECK.due("an answer is for the mill", z.camp(2, 0), 9);
     }
 
     private static void promise7Heads() {
-        FlumeOrders x = forest("reach 0 1;camp 1 9;camp 1 9");
+        FlumeOrders x = Check.forestOf("reach 0 1;camp 1 9;camp 1 9");
         Check.chip(x, 0, 1, "to 2;cut 1");
         Check.chip(x, 0, 1, "mill;cut 1");
         Check.chip(x, 0, 1, "to 3;cut 1");
         Check.chip(x, 2, 1, "to 2;cut 1");
         Check.chip(x, 1, 1, "to 1;cut 1");
         x.run(30);
-        looks(x, 0, 3, 2, 0, 12);
-        looks(x, 1, 4, 3, 0, 18);
-        looks(x, 2, 4, 3, 0, 18);
-        looks(x, 3, 4, 3, 0, 6);
-        looks(x, 4, 4, 3, 0, 12);
+        CHECK.looks(x, 0, 3, 2, 0, 12);
+        CHECK.looks(x, 1, 4, 3, 0, 18);
+        CHECK.looks(x, 2, 4, 3, 0, 18);
+        CHECK.looks(x, 3, 4, 3, 0, 6);
+        CHECK.looks(x, 4, 4, 3, 0, 12);
         CHECK.due("trees of 1", x.camp(1, 0), 9);
         CHECK.due("trees of 2", x.camp(2, 0), 8);
     }
 
     private static void promise7Voids() {
-        FlumeOrders x = forest("reach 0 1;camp 1 50;camp 1 50");
+        FlumeOrders x = Check.forestOf("reach 0 1;camp 1 50;camp 1 50");
         Check.chip(x, 0, 1, "to 1;void 1;void 3;void 4");
         Check.chip(x, 0, 2, "to 1;cut 1;void 0");
         Check.chip(x, 0, 1, "to 2;void 3");
@@ -337,13 +293,13 @@ public final class MinutesTest {
         Check.chip(x, 0, 1, "all;cut 2");
         Check.chip(x, 0, 1, "to 1;cut 4");
         x.run(30);
-        looks(x, 1, 3, 1, 0, 7);
-        looks(x, 3, 4, 3, 0, 25);
-        looks(x, 4, 3, 1, 0, 13);
+        CHECK.looks(x, 1, 3, 1, 0, 7);
+        CHECK.looks(x, 3, 4, 3, 0, 25);
+        CHECK.looks(x, 4, 3, 1, 0, 13);
         CHECK.due("nothing was done at 1", x.camp(1, 0), 50);
         CHECK.due("nothing was late at 1", x.camp(1, 3), 0);
         CHECK.due("nothing was done at 2", x.camp(2, 0), 50);
-        FlumeOrders y = forest("reach 0 1;camp 1 50;camp 1 50");
+        FlumeOrders y = Check.forestOf("reach 0 1;camp 1 50;camp 1 50");
         Check.chip(y, 0, 1, "all;cut 1");
         Check.chip(y, 0, 1, "to 1");
         Check.chip(y, 0, 1, "mill");
@@ -356,7 +312,7 @@ public final class MinutesTest {
         CHECK.due("late of all", y.count(7), 3);
         CHECK.due("it was done", y.camp(1, 0), 49);
         CHECK.due("it was done", y.camp(2, 0), 49);
-        FlumeOrders z = forest("reach 0 1;camp 1 50");
+        FlumeOrders z = Check.forestOf("reach 0 1;camp 1 50");
         Check.chip(z, 0, 1, "to 1;cut 1;void 1");
         Check.chip(z, 0, 1, "to 1;cut 2;void 0");
         z.run(7);
@@ -365,113 +321,5 @@ public final class MinutesTest {
         Check.chip(z, 0, 1, "to 1;void 1");
         z.run(7);
         CHECK.due("one that did nothing is not late", z.camp(1, 3), 0);
-    }
-
-    private static void promise7VoidsOfOneself() {
-        FlumeOrders x = forest("reach 0 1;camp 1 50;camp 1 50");
-        Check.chip(x, 0, 1, "all;cut 1;void 0;cut 2;void 0");
-        x.run(13);
-        CHECK.due("the rest is done", x.camp(1, 0), 47);
-        CHECK.due("at each camp", x.camp(2, 0), 47);
-        CHECK.due("not late", x.count(7), 0);
-        Check.chip(x, 0, 1, "to 1;void 0");
-        x.run(7);
-        CHECK.due("it had done its acts there", x.camp(1, 3), 1);
-    }
-
-    private static void promise8() {
-        FlumeOrders x = forest("reach 0 1 stick 50;camp 1 0;reach 1 1 stick 50;seed 1");
-        for (int i = 0; i < 5; i++) {
-            Check.chip(x, 0, 1, "mill");
-        }
-        Check.chip(x, 1, 1, "mill");
-        CHECK.due("nothing sticks yet", x.pole(0), 0);
-        // 38 for chip 5 in reach 1; 58 13 15 51 27 for the others.
-        x.run(1);
-        CHECK.due("in reach 0", x.reach(0, 3), 5);
-        CHECK.due("pole(0)", x.pole(0), 3);
-        CHECK.due("pole(0) again", x.pole(0), 0);
-        looks(x, 1, 1, 0, 6, 0);
-        looks(x, 5, 2, 1, 6, 0);
-        CHECK.due("pole(1)", x.pole(1), 1);
-        looks(x, 5, 1, 1, 6, 0);
-        CHECK.due("run(6)", x.run(6), 1);
-        CHECK.throwsDue("pole(2)", () -> x.pole(2), Check.INDEX);
-        CHECK.throwsDue("pole(-1)", () -> x.pole(-1), Check.INDEX);
-    }
-
-    private static void promise9() {
-        FlumeOrders x = forest("reach 0 2");
-        CHECK.due("water(9)", x.water(9), 5);
-        Check.chip(x, 0, 1, "mill");
-        x.run(1);
-        CHECK.due("water(1)", x.water(1), 9);
-        looks(x, 0, 1, 0, 4, 0);
-        Check.chip(x, 0, 1, "mill");
-        x.run(1);
-        looks(x, 0, 1, 0, 3, 0);
-        looks(x, 1, 1, 0, 20, 1);
-        CHECK.throwsDue("water(0)", () -> x.water(0), Check.ARGUMENT);
-        CHECK.throwsDue("water(10)", () -> x.water(10), Check.ARGUMENT);
-        CHECK.due("water", x.count(5), 1);
-    }
-
-    private static void promise10() {
-        FlumeOrders x = new FlumeOrders();
-        CHECK.throwsDue("no chip, no what", () -> x.look(0, 6), Check.INDEX);
-        Check.chip(x, 0, 7, "mill");
-        CHECK.throwsDue("look(-1)", () -> x.look(-1, 0), Check.INDEX);
-        CHECK.throwsDue("look(1)", () -> x.look(1, 0), Check.INDEX);
-        CHECK.throwsDue("what -1", () -> x.look(0, -1), Check.NO_ELEMENT);
-        CHECK.throwsDue("what 6", () -> x.look(0, 6), Check.NO_ELEMENT);
-        CHECK.due("weight", x.look(0, 3), 7);
-        CHECK.due("number", x.look(0, 5), FlumeOrders.NONE);
-    }
-
-    private static void promise11() {
-        FlumeOrders x = forest("reach 0 1;camp 1 10");
-        Check.chip(x, 0, 1, "to 1;cut 6;send 2");
-        Check.chip(x, 0, 1, "to 1;void 0");
-        x.run(7);
-        int[] due = {4, 4, 2, 1};
-        for (int what = 0; what < 4; what++) {
-            CHECK.due("camp(1, " + what + ")", x.camp(1, what), due[what]);
-        }
-        CHECK.throwsDue("camp(0)", () -> x.camp(0, 0), Check.INDEX);
-        CHECK.throwsDue("camp(2, 9)", () -> x.camp(2, 9), Check.INDEX);
-        CHECK.throwsDue("what 4", () -> x.camp(1, 4), Check.NO_ELEMENT);
-        CHECK.throwsDue("what -1", () -> x.camp(1, -1), Check.NO_ELEMENT);
-    }
-
-    private static void promise12() {
-        FlumeOrders x = forest("camp 4 0;reach 1 6 stick 99 bend 8;seed 0");
-        Check.chip(x, 1, 1, "mill");
-        Check.chip(x, 0, 1, "mill");
-        Check.chip(x, 0, 1, "mill");
-        x.run(1);
-        int[][] due = {{10, 0, 0, 2}, {6, 99, 8, 1}};
-        for (int r = 0; r < 2; r++) {
-            for (int what = 0; what < 4; what++) {
-                CHECK.due("reach(" + r + ", " + what + ")", x.reach(r, what), due[r][what]);
-            }
-        }
-        CHECK.throwsDue("reach(2)", () -> x.reach(2, 0), Check.INDEX);
-        CHECK.throwsDue("reach(-1, 9)", () -> x.reach(-1, 9), Check.INDEX);
-        CHECK.throwsDue("what 4", () -> x.reach(1, 4), Check.NO_ELEMENT);
-        CHECK.throwsDue("what -1", () -> x.reach(1, -1), Check.NO_ELEMENT);
-    }
-
-    private static void promise13() {
-        FlumeOrders x = forest("reach 0 1");
-        Check.chip(x, 0, 5, "mill");
-        Check.chip(x, 0, 1, "mill");
-        Check.chip(x, 0, 3, "mill");
-        CHECK.due("run(20)", x.run(20), 3);
-        int[] due = {1, 2, 0, FlumeOrders.NONE};
-        for (int k = 0; k < 4; k++) {
-            CHECK.due("out(" + k + ")", x.out(k), due[k]);
-        }
-        CHECK.due("out(-1)", x.out(-1), FlumeOrders.NONE);
-        CHECK.due("out(MAX)", x.out(Integer.MAX_VALUE), FlumeOrders.NONE);
     }
 }

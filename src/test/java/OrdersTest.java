@@ -1,10 +1,8 @@
-/** Promises 16 to 18: orders, pairs of which one comes ahead, and their plan. */
+/** Promise 18: the plan of orders, of which some come ahead of others. */
 public final class OrdersTest {
     private static final Check CHECK = new Check();
 
     public static void main(String[] args) {
-        promise16();
-        promise17();
         promise18();
         promise18Chains();
         promise18Rings();
@@ -26,50 +24,9 @@ public final class OrdersTest {
         }
     }
 
-    private static void promise16() {
-        FlumeOrders x = forest();
-        CHECK.throwsDue("camp 0", () -> x.order(0, 1), Check.INDEX);
-        CHECK.throwsDue("camp 4", () -> x.order(4, 0), Check.INDEX);
-        CHECK.throwsDue("camp -1", () -> x.order(-1, 1), Check.INDEX);
-        CHECK.throwsDue("weight 0", () -> x.order(1, 0), Check.ARGUMENT);
-        CHECK.throwsDue("weight 10", () -> x.order(1, 10), Check.ARGUMENT);
-        CHECK.due("orders", x.count(6), 0);
-        for (int i = 0; i < 12; i++) {
-            CHECK.due("order " + i, x.order(i % 3 + 1, i % 9 + 1), i);
-        }
-        CHECK.throwsDue("a 13th", () -> x.order(1, 1), Check.UNSUPPORTED);
-        CHECK.throwsDue("a 13th without weight", () -> x.order(1, 0), Check.ARGUMENT);
-        CHECK.throwsDue("a 13th without camp", () -> x.order(4, 1), Check.INDEX);
-        CHECK.due("orders", x.count(6), 12);
-    }
-
-    private static void promise17() {
-        FlumeOrders x = forest();
-        x.order(1, 1);
-        x.order(2, 1);
-        CHECK.due("the first", x.ahead(0, 1, 5), 0);
-        CHECK.due("the other way it is another pair", x.ahead(1, 0, 7), 0);
-        CHECK.due("the latest", x.ahead(0, 1, 999), 5);
-        CHECK.due("none any more", x.ahead(0, 1, 0), 999);
-        CHECK.due("none", x.ahead(0, 1, 0), 0);
-        CHECK.due("of the other", x.ahead(1, 0, 1), 7);
-        CHECK.throwsDue("first 2", () -> x.ahead(2, 0, 1), Check.INDEX);
-        CHECK.throwsDue("both 2", () -> x.ahead(2, 2, -1), Check.INDEX);
-        CHECK.throwsDue("second 2", () -> x.ahead(0, 2, 1), Check.INDEX);
-        CHECK.throwsDue("first -1", () -> x.ahead(-1, 0, 1), Check.INDEX);
-        CHECK.throwsDue("second -1", () -> x.ahead(0, -1, 1), Check.INDEX);
-        CHECK.throwsDue("both one", () -> x.ahead(1, 1, 1), Check.ARGUMENT);
-        CHECK.throwsDue("both one, none", () -> x.ahead(1, 1, 0), Check.ARGUMENT);
-        CHECK.throwsDue("minutes -1", () -> x.ahead(0, 1, -1), Check.ARGUMENT);
-        CHECK.throwsDue("minutes 1000", () -> x.ahead(0, 1, 1000), Check.ARGUMENT);
-        CHECK.due("nothing was changed", x.ahead(0, 1, 1), 0);
-    }
-
     private static void promise18() {
         FlumeOrders x = forest();
         plans(x, 0);
-        CHECK.throwsDue("plan(0) without orders", () -> x.plan(0), Check.INDEX);
-        CHECK.throwsDue("plan(-2)", () -> x.plan(-2), Check.INDEX);
         x.order(1, 2);
         x.order(2, 2);
         // 3 and 7 by 3 minutes each.
@@ -81,7 +38,6 @@ public final class OrdersTest {
         x.ahead(0, 1, 0);
         x.ahead(1, 0, 10);
         plans(x, 31, 22, 0);
-        CHECK.throwsDue("plan(2)", () -> x.plan(2), Check.INDEX);
     }
 
     private static void promise18Chains() {
@@ -112,7 +68,6 @@ public final class OrdersTest {
         plans(x, 121, 0, 0, 107, 0);
         x.ahead(2, 0, 1);
         plans(x, FlumeOrders.NONE, FlumeOrders.NONE, FlumeOrders.NONE, FlumeOrders.NONE, FlumeOrders.NONE);
-        CHECK.throwsDue("plan(4)", () -> x.plan(4), Check.INDEX);
         x.ahead(1, 2, 0);
         plans(x, 120, 9, 0, 0, 0);
     }

@@ -3,7 +3,9 @@ import java.util.function.IntSupplier;
 
 /** Runs of calls by drawn numbers (always the same ones), each answer held against PlainForest. */
 public final class RandomRunsTest {
-    private static final int RUNS = 1500;
+    private static final int RUNS = 2500;
+    /** What an object answers behind so many calls is free. */
+    private static final int MOST_CALLS = 512;
     private final Check check = new Check();
     private final Random draw;
     private final FlumeOrders x = new FlumeOrders();
@@ -35,10 +37,13 @@ public final class RandomRunsTest {
         for (int i = draw.nextInt(4); i > 0; i--) {
             forest();
         }
-        int most = 20 + draw.nextInt(150);
+        if (draw.nextInt(12) == 0) {
+            crowd();
+        }
+        int most = 40 + draw.nextInt(320);
         while (calls < most) {
             call();
-            if (draw.nextInt(12) == 0) {
+            if (draw.nextInt(30) == 0) {
                 compareAll();
             }
         }
@@ -46,7 +51,20 @@ public final class RandomRunsTest {
         return calls;
     }
 
+    /** Many chips by few calls. */
+    private void crowd() {
+        int count = any(30, 58);
+        for (int i = 0; i < count; i++) {
+            feed(draw.nextInt(4) == 0 ? "all;cut 1;send 1;answer if logs<1" : "all");
+            int weight = any(1, 9);
+            same("chip(0, " + weight + ")", () -> x.chip(0, weight), () -> p.chip(0, weight));
+        }
+    }
+
     private void same(String call, IntSupplier of, IntSupplier due) {
+        if (calls >= MOST_CALLS) {
+            return;
+        }
         calls++;
         int got = Check.answer(of);
         int want = Check.answer(due);
@@ -110,12 +128,19 @@ public final class RandomRunsTest {
             int what = around(0, 5);
             same("later(" + m + ", " + what + ")", () -> x.later(m, what), () -> p.later(m, what));
         } else if (kind == 26) {
-            x.image();
-            p.image();
+            image();
         } else if (kind == 27 && draw.nextInt(2) == 0) {
             same("back()", () -> x.back() ? 1 : 0, () -> p.back() ? 1 : 0);
         } else {
             look();
+        }
+    }
+
+    private void image() {
+        if (calls < MOST_CALLS) {
+            calls++;
+            x.image();
+            p.image();
         }
     }
 
@@ -130,14 +155,15 @@ public final class RandomRunsTest {
         same("out(" + c + ")", () -> x.out(c), () -> p.out(c));
     }
 
+    /** All that can be seen; of many chips not each thing of each one. */
     private void compareAll() {
-        int before = calls;
         for (int i = -1; i <= 10; i++) {
             int k = i;
             same("count(" + k + ")", () -> x.count(k), () -> p.count(k));
         }
+        int step = p.count(2) > 6 ? any(2, 5) : 1;
         for (int i = 0; i <= p.count(2); i++) {
-            for (int what = 0; what < 6; what++) {
+            for (int what = i % step; what < 6; what += step) {
                 int c = i;
                 int w = what;
                 same("look(" + c + ", " + w + ")", () -> x.look(c, w), () -> p.look(c, w));
@@ -156,7 +182,6 @@ public final class RandomRunsTest {
             same("out(" + k + ")", () -> x.out(k), () -> p.out(k));
         }
         same("fault()", x::fault, p::fault);
-        calls = before;
     }
 
     private void ways() {

@@ -7,12 +7,15 @@ import java.util.Collections;
 import java.util.IdentityHashMap;
 import java.util.Set;
 
-/** All calls of one run live in one room: a new object is small, and calls make nothing but what they throw. */
+/** All calls of one run, 512 at most, live in one room, together with the object that they are made on. */
 public final class RoomTest {
     private static final Check CHECK = new Check();
-    private static final int CALLS = 512;
-    /** Of the machine's own counting; an array of 512 numbers would be more. */
-    private static final long BYTES_A_CALL = 256;
+    private static final int MOST_OBJECTS = 600000;
+    private static final int MOST_PARTS = 7300000;
+    /** Crowding the object takes some of its 512 calls. */
+    private static final int CALLS = 350;
+    /** 512 times so many bytes are neither 600,000 objects, of 16 bytes at least, nor 7.3 million elements. */
+    private static final long BYTES_A_CALL = 14000;
 
     private interface Call {
         int of(FlumeOrders x, int i);
@@ -20,23 +23,23 @@ public final class RoomTest {
 
     public static void main(String[] args) {
         sizeOfANewObject();
-        callsMakeNothing("later", (x, i) -> x.later(2000, i % 6));
-        callsMakeNothing("run", (x, i) -> x.run(2000));
-        callsMakeNothing("image and back", (x, i) -> {
+        callsMakeLittle("later", 1, (x, i) -> x.later(2000, i % 6));
+        callsMakeLittle("run", 1, (x, i) -> x.run(2000));
+        callsMakeLittle("image and back", 2, (x, i) -> {
             x.image();
             return x.back() ? 1 : 0;
         });
-        callsMakeNothing("feed and fits", (x, i) -> {
+        callsMakeLittle("feed and fits", 3, (x, i) -> {
             x.feed(0x31323334, 0x35360000, 0, 0, 0);
             x.end(6);
             return x.fits(i % 7 - 1);
         });
-        callsMakeNothing("plan", (x, i) -> x.plan(-1));
-        callsMakeNothing("waits", (x, i) -> x.waits(12, 9, 1, 1, 9));
-        callsMakeNothing("test", (x, i) -> x.test(-1));
-        callsMakeNothing("repeats", (x, i) -> x.repeats(0, 12, 0));
-        callsMakeNothing("texts of chips", (x, i) -> readChip(x, "all;answer if " + "1+".repeat(190) + "1<2"));
-        callsMakeNothing("texts of the forest", RoomTest::readForest);
+        callsMakeLittle("plan", 1, (x, i) -> x.plan(-1));
+        callsMakeLittle("waits", 1, (x, i) -> x.waits(12, 9, 1, 1, 9));
+        callsMakeLittle("test", 1, (x, i) -> x.test(-1));
+        callsMakeLittle("repeats", 1, (x, i) -> x.repeats(0, 12, 0));
+        callsMakeLittle("texts of chips", 23, RoomTest::readChip);
+        callsMakeLittle("texts of the forest", 20, RoomTest::readForest);
         CHECK.over("RoomTest");
     }
 
@@ -53,8 +56,8 @@ public final class RoomTest {
             parts += o.getClass().isArray() ? elements(o, open) : fields(o, open);
         }
         System.out.println("a new object: " + seen.size() + " objects, " + parts + " fields and elements");
-        CHECK.due("objects: " + seen.size(), seen.size() < 2000, true);
-        CHECK.due("fields and elements: " + parts, parts < 100000, true);
+        CHECK.due("objects: " + seen.size(), seen.size() < MOST_OBJECTS / 2, true);
+        CHECK.due("fields and elements: " + parts, parts < MOST_PARTS / 2, true);
     }
 
     private static long elements(Object array, ArrayDeque<Object> open) {
@@ -97,36 +100,35 @@ public final class RoomTest {
                 x.ahead(i - 1, i, 999);
             }
         }
-        for (int i = 0; i < 50; i++) {
-            Check.chip(x, i % 12, i % 9 + 1, "all;cut 3 if not (trees<5 or frost);send 2;answer if hour>2 and logs>0;void " + i);
+        for (int i = 0; i < 12; i++) {
+            Check.chip(x, i % 12, i % 9 + 1, "all;cut 3 if not (trees<5 or frost);send 2;answer if 9>hour and logs>0;void " + i);
         }
         return x;
     }
 
-    private static int readChip(FlumeOrders x, String text) {
-        return Check.chip(x, 0, 1, text);
+    private static int readChip(FlumeOrders x, int i) {
+        return Check.chip(x, 0, 1, "all;answer if " + "1+".repeat(190) + "1<2");
     }
 
     private static int readForest(FlumeOrders x, int i) {
         return Check.forest(x, "reach 0 5 stick 1 bend 1;".repeat(13) + "water " + i % 11);
     }
 
-    private static void callsMakeNothing(String what, Call call) {
+    /** Of something that takes so many calls each time. */
+    private static void callsMakeLittle(String what, int callsEach, Call call) {
         com.sun.management.ThreadMXBean threads = (com.sun.management.ThreadMXBean) ManagementFactory.getThreadMXBean();
         FlumeOrders warm = crowded();
         long self = Thread.currentThread().getId();
-        for (int i = 0; i < CALLS; i++) {
+        for (int i = 0; i < CALLS / callsEach; i++) {
             call.of(warm, i);
         }
-        boolean isText = what.startsWith("texts");
         FlumeOrders x = crowded();
         long before = threads.getThreadAllocatedBytes(self);
-        for (int i = 0; i < CALLS; i++) {
+        for (int i = 0; i < CALLS / callsEach; i++) {
             call.of(x, i);
         }
         long made = threads.getThreadAllocatedBytes(self) - before;
-        // The test itself makes the text, its numbers, and what the refused calls throw.
-        long most = isText ? 8192 : BYTES_A_CALL;
-        CHECK.due(what + " made " + made / CALLS + " bytes a call", made <= most * CALLS, true);
+        // Of texts the test itself makes a part: their signs, their numbers, and what the refused calls throw.
+        CHECK.due(what + " made " + made / CALLS + " bytes a call", made <= BYTES_A_CALL * CALLS, true);
     }
 }

@@ -1,109 +1,18 @@
-/** Promises 23 to 25: minutes looked ahead at, and the image. */
-public final class LookAheadTest {
+/** Promises 24 and 25: the image is of all, also of what is made anew when one has gone back. */
+public final class ImageTest {
     private static final Check CHECK = new Check();
 
     public static void main(String[] args) {
-        promise23();
-        promise23NothingStays();
-        promise23Refused();
-        promise24And25();
         promise24And25OfAll();
         promise25Chips();
         promise25Camps();
         promise25CampsMadeAnew();
         promise25NotchesCutAnew();
-        CHECK.over("LookAheadTest");
-    }
-
-    private static FlumeOrders forest(String text) {
-        FlumeOrders x = new FlumeOrders();
-        CHECK.due(text, Check.forest(x, text), 1);
-        return x;
-    }
-
-    private static void laters(FlumeOrders x, int minutes, int... due) {
-        for (int what = 0; what < due.length; what++) {
-            CHECK.due("later(" + minutes + ", " + what + ")", x.later(minutes, what), due[what]);
-        }
-    }
-
-    private static void promise23() {
-        FlumeOrders x = forest("reach 0 1;camp 1 5;reach 1 1 stick 40 bend 3");
-        // From seed 1 on the draws are 38 58 13 15.
-        Check.chip(x, 0, 1, "to 1;cut 3;send 2;answer");
-        Check.chip(x, 0, 1, "mill");
-        Check.chip(x, 0, 2, "mill");
-        Check.chip(x, 0, 3, "mill");
-        laters(x, 0, 0, 0, 0, 0, 4, 0);
-        laters(x, 1, 0, 0, 0, 0, 0, 4);
-        // Chip 1 sticks by 38, the answer does not by 58, chip 2 sticks by 13; chip 3 waits at the bend.
-        laters(x, 7, 0, 1, 1, 2, 0, 3);
-        laters(x, 8, 0, 1, 2, 2, 0, 2);
-        laters(x, 9, 0, 1, 2, 2, 1, 1);
-        laters(x, 12, 0, 1, 2, 2, 1, 1);
-        laters(x, 13, 1, 1, 3, 2, 0, 0);
-        laters(x, 2000, 1, 1, 3, 2, 0, 0);
-        x.run(10);
-        laters(x, 0, 0, 1, 2, 2, 1, 1);
-        laters(x, 3, 1, 1, 3, 2, 0, 0);
-    }
-
-    private static void promise23NothingStays() {
-        FlumeOrders x = forest("reach 0 1 stick 50;camp 1 5");
-        for (int i = 0; i < 4; i++) {
-            Check.chip(x, 0, 1, "all;cut 2;send 1;answer;void 3");
-        }
-        for (int round = 0; round < 3; round++) {
-            int then = x.later(500, 3);
-            CHECK.due("again", x.later(500, 3), then);
-        }
-        CHECK.due("clock", x.count(4), 0);
-        CHECK.due("chips", x.count(2), 4);
-        CHECK.due("sent", x.count(8), 0);
-        CHECK.due("trees", x.camp(1, 0), 5);
-        CHECK.due("reach 0", x.reach(0, 3), 0);
-        x.run(1);
-        int[] draws = {38, 58, 13, 15};
-        for (int i = 0; i < 4; i++) {
-            CHECK.due("the draws are as without", x.look(i, 0), draws[i] < 50 ? 2 : 1);
-        }
-        CHECK.due("the tape", x.feed(0, 0, 0, 0, 0), 20);
-        x.later(5, 0);
-        CHECK.due("the tape stays", x.feed(0, 0, 0, 0, 0), 40);
-    }
-
-    private static void promise23Refused() {
-        FlumeOrders x = new FlumeOrders();
-        CHECK.throwsDue("minutes -1", () -> x.later(-1, 0), Check.ARGUMENT);
-        CHECK.throwsDue("minutes 2001", () -> x.later(2001, 9), Check.ARGUMENT);
-        CHECK.throwsDue("what 6", () -> x.later(0, 6), Check.NO_ELEMENT);
-        CHECK.throwsDue("what -1", () -> x.later(2000, -1), Check.NO_ELEMENT);
-        CHECK.due("later(2000, 5)", x.later(2000, 5), 0);
-    }
-
-    private static void promise24And25() {
-        FlumeOrders x = forest("reach 0 2");
-        CHECK.due("none was kept", x.back(), false);
-        Check.chip(x, 0, 1, "mill");
-        x.run(5);
-        x.image();
-        for (int i = 0; i < 2; i++) {
-            CHECK.due("run(8)", x.run(8), 1);
-            CHECK.due("back", x.back(), true);
-            CHECK.due("clock", x.count(4), 5);
-            CHECK.due("to go", x.look(0, 2), 8);
-            CHECK.due("out", x.count(3), 0);
-            CHECK.due("out(0)", x.out(0), FlumeOrders.NONE);
-        }
-        x.run(1);
-        x.image();
-        x.run(1);
-        CHECK.due("back", x.back(), true);
-        CHECK.due("the latest image", x.count(4), 6);
+        CHECK.over("ImageTest");
     }
 
     private static void promise24And25OfAll() {
-        FlumeOrders x = forest("camp 3 30;frost 0 0;seed 1;water 9");
+        FlumeOrders x = Check.forestOf("camp 3 30;frost 0 0;seed 1;water 9");
         x.order(1, 1);
         x.order(1, 2);
         x.ahead(0, 1, 40);
@@ -140,7 +49,7 @@ public final class LookAheadTest {
     }
 
     private static void promise25Chips() {
-        FlumeOrders x = forest("reach 0 1;camp 1 50");
+        FlumeOrders x = Check.forestOf("reach 0 1;camp 1 50");
         Check.chip(x, 0, 1, "to 1;cut 1;void 1");
         x.image();
         Check.chip(x, 0, 2, "to 1;cut 9");
@@ -171,7 +80,7 @@ public final class LookAheadTest {
     }
 
     private static void promise25Camps() {
-        FlumeOrders x = forest("reach 0 1;camp 1 50");
+        FlumeOrders x = Check.forestOf("reach 0 1;camp 1 50");
         Check.chip(x, 0, 1, "all;cut 5;send 2");
         Check.chip(x, 0, 2, "to 1;void 0;void 3");
         x.run(3);
@@ -203,7 +112,7 @@ public final class LookAheadTest {
     }
 
     private static void promise25CampsMadeAnew() {
-        FlumeOrders x = forest("reach 0 1");
+        FlumeOrders x = Check.forestOf("reach 0 1");
         x.image();
         Check.forest(x, "camp 1 50");
         Check.chip(x, 0, 1, "to 1;cut 9;send 4;void 1;void 2");
@@ -231,7 +140,7 @@ public final class LookAheadTest {
     }
 
     private static void promise25NotchesCutAnew() {
-        FlumeOrders x = forest("reach 0 1;camp 1 50;camp 1 50");
+        FlumeOrders x = Check.forestOf("reach 0 1;camp 1 50;camp 1 50");
         x.image();
         for (int i = 0; i < 5; i++) {
             Check.chip(x, 0, 1, "mill;answer if " + "1+".repeat(150) + "1<2");
